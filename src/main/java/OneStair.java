@@ -194,15 +194,13 @@ public final class OneStair {
         if (!now.has(person)) {
             return BAD;
         }
-        trial.become(now);
-        stair.tryUntil(trial, END);
+        tryToTheEnd();
         int arrived = trial.arrived[person];
         return arrived == NOT_YET ? NONE : arrived;
     }
 
     public int last() {
-        trial.become(now);
-        stair.tryUntil(trial, END);
+        tryToTheEnd();
         return trial.latestArrival();
     }
 
@@ -210,8 +208,7 @@ public final class OneStair {
         if (!now.has(person)) {
             return BAD;
         }
-        trial.become(now);
-        stair.tryUntil(trial, END);
+        tryToTheEnd();
         return stair.waits[person];
     }
 
@@ -219,8 +216,7 @@ public final class OneStair {
         if (!isFlight(flight)) {
             return BAD;
         }
-        trial.become(now);
-        stair.tryUntil(trial, END);
+        tryToTheEnd();
         return stair.mostUsed[flight];
     }
 
@@ -588,6 +584,11 @@ public final class OneStair {
 
     private boolean isInRows(int i, int what) {
         return within(i, 0, rowCount - 1) && within(what, 0, ROW_PARTS - 1);
+    }
+
+    private void tryToTheEnd() {
+        trial.become(now);
+        stair.tryUntil(trial, END);
     }
 
     private boolean arrivesBy(int by, int person, int start) {

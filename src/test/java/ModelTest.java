@@ -11,7 +11,7 @@ import java.util.Random;
  * answered by trying all that can be tried.
  */
 public final class ModelTest {
-    private static final int RUNS = 1500;
+    private static final int RUNS = 800;
     private static final int CALLS = 512;
 
     public static void main(String[] args) {
