@@ -137,16 +137,17 @@ final class Edges {
         changesOnly(scene, call, want, c);
     }
 
-    /** Of all that can be seen, only these parts may be others behind the call. */
+    /** Of all that can be seen, these parts are others behind the call, and no more. */
     void changesOnly(Scene scene, String call, int want, Call c, String... parts) {
         OneStair x = scene.made();
         due(scene.name + call, c.on(x), want);
         Map<String, List<Integer>> before = seenBefore.computeIfAbsent(scene, s -> seen(s, null));
         Map<String, List<Integer>> behind = seen(scene, c);
-        Set<String> free = Set.of(parts);
+        Set<String> changed = Set.of(parts);
         for (String part : looks.keySet()) {
-            boolean same = free.contains(part) || before.get(part).equals(behind.get(part));
-            check(same, scene.name + call + " changed the " + part);
+            boolean same = before.get(part).equals(behind.get(part));
+            check(same || changed.contains(part), scene.name + call + " changed the " + part);
+            check(!same || !changed.contains(part), scene.name + call + " left the " + part + " as it was");
         }
     }
 

@@ -99,6 +99,10 @@ public final class HostEdgesTest {
         OneStair gone = Edges.BRIM.made();
         gone.minutes(1);
         due("judge(), a minute later", gone.judge(), 1);
+        OneStair first = of("clerk 0 from 0 to 3;clerk 0 from 0 to 3;room 1;");
+        first.prove(5);
+        first.mind(1, Edges.CHIEF, 9);
+        due("judge(), another goes first now", first.judge(), 3);
         OneStair end = of("clerk 0 from 0 to 0;");
         end.clock(120);
         end.prove(5);
@@ -318,6 +322,10 @@ public final class HostEdgesTest {
         due("taken(0, 11)", x.taken(0, 11), 7);
         due("shelf(0, 0, 2)", x.shelf(0, 0, 2), 1);
         due("taken(0, 2)", x.taken(0, 2), 2);
+        due("shelf(0, 2, 2)", x.shelf(0, 2, 2), 1);
+        due("taken(0, 2)", x.taken(0, 2), MISSING);
+        due("shelf(1, 2, 1)", x.shelf(1, 2, 1), 1);
+        due("taken(1, 11)", x.taken(1, 11), MISSING);
     }
 
     private static void p39() {
@@ -386,7 +394,8 @@ public final class HostEdgesTest {
         int[][] bodies = {{10}, {20, 11, 10}, {12}, {13, 20, 11, 10}};
         for (int act = 0; act <= 3; act++) {
             int a = act;
-            edges.changesOnly(Edges.SOME, "act(0, " + act + ", 5)", want[act], x -> x.act(0, a, 5), "trace");
+            String[] changed = act == 3 ? new String[0] : new String[] {"trace"};
+            edges.changesOnly(Edges.SOME, "act(0, " + act + ", 5)", want[act], x -> x.act(0, a, 5), changed);
             OneStair x = Edges.SOME.made();
             x.act(0, act, 5);
             edges.bodies(x, bodies[act]);

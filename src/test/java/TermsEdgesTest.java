@@ -21,6 +21,53 @@ public final class TermsEdgesTest {
         return x;
     }
 
+    // ---- refusals
+
+    /** A call with four numbers, of which it uses as many as it likes. */
+    private interface Wild {
+        int on(OneStair x, int p, int q, int r, int s);
+    }
+
+    private static final Wild[] REFUSING = {(x, p, q, r, s) -> x.feed(p, q), (x, p, q, r, s) -> x.room(p),
+        (x, p, q, r, s) -> x.hat(p, q, r), (x, p, q, r, s) -> x.sweep(p), (x, p, q, r, s) -> x.closed(p, q),
+        (x, p, q, r, s) -> x.person(p, q, r, s), (x, p, q, r, s) -> x.personOf(p, q),
+        (x, p, q, r, s) -> x.mind(p, q, r), (x, p, q, r, s) -> x.sends(p, q, r), (x, p, q, r, s) -> x.stand(p, q),
+        (x, p, q, r, s) -> x.minutes(p), (x, p, q, r, s) -> x.clock(p), (x, p, q, r, s) -> x.when(p),
+        (x, p, q, r, s) -> x.last(), (x, p, q, r, s) -> x.waited(p), (x, p, q, r, s) -> x.crowd(p),
+        (x, p, q, r, s) -> x.there(p, q), (x, p, q, r, s) -> x.drill(), (x, p, q, r, s) -> x.early(p, q),
+        (x, p, q, r, s) -> x.swap(), (x, p, q, r, s) -> x.enough(p), (x, p, q, r, s) -> x.worst(p),
+        (x, p, q, r, s) -> x.rent(p), (x, p, q, r, s) -> x.lot(p), (x, p, q, r, s) -> x.prove(p),
+        (x, p, q, r, s) -> x.row(p, q), (x, p, q, r, s) -> x.alterRow(p, q, r),
+        (x, p, q, r, s) -> x.starts(p, q, r, s), (x, p, q, r, s) -> x.sheet(p, q, r),
+        (x, p, q, r, s) -> x.put(p, q, r), (x, p, q, r, s) -> x.item(p, q, r), (x, p, q, r, s) -> x.shelf(p, q, r),
+        (x, p, q, r, s) -> x.taken(p, q), (x, p, q, r, s) -> x.trace(p), (x, p, q, r, s) -> x.many(p),
+        (x, p, q, r, s) -> x.again()};
+
+    /** Numbers in and out of all ranges, for calls in all scenes: whichever are refused leave all as it was. */
+    private static void refusalsChangeNothing() {
+        sentence("Answers below 0, where not told otherwise, are refusals; such a call changes nothing");
+        int[] numbers = {0, -1, 1, 2, 9, 3, 41, 4, 8, 100, 121, LOW, HIGH};
+        Edges.Scene[] scenes = {Edges.NEW, Edges.SOME, Edges.BRIM, Edges.LATE};
+        int refused = 0;
+        for (int c = 0; c < REFUSING.length; c++) {
+            for (int i = 0; i < 40; i++) {
+                int p = numbers[i % numbers.length];
+                int q = numbers[(5 * i + c) % numbers.length];
+                int r = numbers[(7 * i + 3 * c) % numbers.length];
+                int s = numbers[(3 * i + 1) % numbers.length];
+                Wild call = REFUSING[c];
+                Edges.Scene scene = scenes[i % 4];
+                int answer = call.on(scene.made(), p, q, r, s);
+                if (answer < 0 && (answer >= -4 || answer <= -9 && answer >= -14)) {
+                    String told = "call " + c + " with " + p + ", " + q + ", " + r + ", " + s;
+                    edges.changesNothing(scene, told, answer, x -> call.on(x, p, q, r, s));
+                    refused++;
+                }
+            }
+        }
+        due("more than 400 calls were refused", refused > 400 ? 1 : 0, 1);
+    }
+
     // ---- the stair
 
     private static void callsOfOneObject() {
@@ -382,6 +429,34 @@ public final class TermsEdgesTest {
         edges.changesNothing(Edges.SOME, "judge()", 3, y -> y.judge());
     }
 
+    /** What one trial left behind is nothing to the next one. */
+    private static void trialsFromNow() {
+        sentence("A TRIAL goes on from all as it is");
+        OneStair x = of("clerk 0 from 0 to 9;");
+        int[] first = {8, 8, 0, 1, 1, 1, 42, 1, 0, 8, 0};
+        int[] stands = {3, 3, 0, 0, 0, 5, 47, 1, 5, 3, 4};
+        int[] closed = {30, 30, 27, 0, 0, 5, 47, NONE, 0, 30, 4};
+        asked(x, first);
+        x.stand(0, 5);
+        asked(x, stands);
+        x.hat(8, 0, 30);
+        asked(x, closed);
+        x.sweep(0);
+        asked(x, stands);
+        x.stand(0, 0);
+        asked(x, first);
+    }
+
+    private static void asked(OneStair x, int... want) {
+        int[] got = {x.when(0), x.last(), x.waited(0), x.crowd(0), x.there(1, 0), x.drill(), x.early(0, 50),
+            x.enough(8), x.worst(1), x.rent(9), x.cheapest()};
+        String[] calls = {"when(0)", "last()", "waited(0)", "crowd(0)", "there(1, 0)", "drill()", "early(0, 50)",
+            "enough(8)", "worst(1)", "rent(9)", "cheapest()"};
+        for (int i = 0; i < calls.length; i++) {
+            due(calls[i], got[i], want[i]);
+        }
+    }
+
     private static void never() {
         sentence("lets LAST be latest (never counts 999); of several the least.");
         OneStair x = of("clerk 0 from 0 to 2;clerk 0 from 9 to 8 at 99;");
@@ -518,6 +593,55 @@ public final class TermsEdgesTest {
         }
     }
 
+    private static void bodies() {
+        sentence("clerk: 10 climbs: x + n. 11 yields: climbs(x) * 2. 12 shares: x by (a - n), the rest away");
+        acts(Edges.CLERK, new int[] {10, 20, 7, 16}, new int[][] {{10}, {11, 10}, {12}, {13, 11, 10}});
+        sentence("limper: 20 yields: super.yields(x) - a.");
+        acts(Edges.LIMPER, new int[] {10, 16, 7, 20}, new int[][] {{10}, {20, 11, 10}, {12}, {13, 20, 11, 10}});
+        sentence("runner: 30 climbs: super.climbs(x) * 3. 31 tells: super.tells(x) + shares(n).");
+        acts(Edges.RUNNER, new int[] {30, 60, 7, 59}, new int[][] {{30, 10}, {11, 30, 10}, {12},
+            {31, 13, 11, 30, 10, 12}});
+        sentence("chief: 40 climbs: 0 - super.climbs(x). 41 yields: super.yields(x) + climbs(n).");
+        acts(Edges.CHIEF, new int[] {-30, -78, 7, -71}, new int[][] {{40, 30, 10}, {41, 11, 40, 30, 10, 40, 30, 10},
+            {12}, {31, 13, 41, 11, 40, 30, 10, 40, 30, 10, 12}});
+        sentence("porter: 50 shares: super.shares(x + 2) ^ 1. 51 climbs: super.climbs(x) - n.");
+        acts(Edges.PORTER, new int[] {7, 10, 8, 14}, new int[][] {{51, 10}, {20, 11, 51, 10}, {50, 12},
+            {13, 20, 11, 51, 10}});
+        sentence("boy: 60 tells: super.tells(x) * 2. 61 shares: super.shares(x) + climbs(a).");
+        acts(Edges.BOY, new int[] {10, 20, 14, 32}, new int[][] {{10}, {11, 10}, {61, 12, 10}, {60, 13, 11, 10}});
+    }
+
+    /** Each act of one with the number 3 and A 4, with 7. */
+    private static void acts(int kind, int[] want, int[][] bodies) {
+        OneStair x = of("boy 0 from 0 to 0;".repeat(4));
+        x.shelf(0, 0, 3);
+        x.mind(3, kind, 4);
+        for (int act = 0; act < 4; act++) {
+            due("act " + act + " of kind " + kind, x.act(0, act, 7), want[act]);
+            edges.bodies(x, bodies[act]);
+        }
+    }
+
+    /** Behind a parting by 0 no body begins. */
+    private static void tracesOfParted() {
+        sentence("numbers of the bodies that ran in the latest act(), as they began (left first)");
+        int[][] shares = {{12}, {12}, {12}, {12}, {50, 12}, {61, 12}};
+        int[][] tells = {{}, {}, {31, 13, 11, 30, 10, 12}, {31, 13, 41, 11, 40, 30, 10, 40, 30, 10, 12}};
+        for (int kind = 0; kind < 6; kind++) {
+            OneStair x = of("boy 0 from 0 to 0;".repeat(4));
+            x.shelf(0, 0, 3);
+            x.mind(3, kind, 3);
+            due("shares of kind " + kind, x.act(0, 2, 7), -15);
+            edges.bodies(x, shares[kind]);
+            if (kind == Edges.RUNNER || kind == Edges.CHIEF) {
+                due("tells of kind " + kind, x.act(0, 3, 7), -15);
+                edges.bodies(x, tells[kind]);
+            }
+            x.mind(3, kind, 4);
+            due("climbs behind it", x.act(0, 0, -3) == -15 ? 1 : 0, 0);
+        }
+    }
+
     private static void traces() {
         sentence("THE TRACE: numbers of the bodies that ran in the latest act(), as they began (left first); "
             + "the first 30 are kept.");
@@ -570,6 +694,7 @@ public final class TermsEdgesTest {
     }
 
     public static void main(String[] args) {
+        refusalsChangeNothing();
         callsOfOneObject();
         floorsAndFlights();
         minuteAtFirstAndInTheEnd();
@@ -590,13 +715,16 @@ public final class TermsEdgesTest {
         stays();
         likeGoals();
         trials();
+        trialsFromNow();
         never();
         lots();
         rowsAsFarAsThereAre();
         rowsBehindTheEnd();
         actsWrap();
         partedByZero();
+        bodies();
         traces();
+        tracesOfParted();
         sheetsAndShelves();
         edges.end();
     }

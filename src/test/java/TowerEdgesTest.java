@@ -127,7 +127,7 @@ public final class TowerEdgesTest {
         Edges.Scene told = Edges.BRIM.and("told", y -> y.tower());
         edges.changesOnly(Edges.BRIM, "tower()", 1, y -> y.tower(), "people", "hats", "room", "minute", "rows",
             "shelves", "tape");
-        edges.changesOnly(told, "tower() of nothing", 0, y -> y.tower(), "people", "hats", "room", "shelves", "tape");
+        edges.changesOnly(told, "tower() of nothing", 0, y -> y.tower(), "people", "hats", "room", "shelves");
     }
 
     private static void allByItAlone() {
@@ -139,9 +139,12 @@ public final class TowerEdgesTest {
         due("minute()", x.minute(), 0);
         due("room(1)", x.room(1), 2);
         due("seed(0)", x.seed(0), -5);
+        x.last();
+        x.seed(HIGH);
         edges.people(x, 5, 0);
         edges.people(x, 6, -9);
         due("tower() of nothing", x.tower(), 0);
+        due("seed(0)", x.seed(0), HIGH);
         due("room(1)", x.room(1), 2);
         due("the latest room counts", Edges.tower(x, "room 9;room 3;"), 0);
         due("room(1)", x.room(1), 3);
@@ -240,6 +243,9 @@ public final class TowerEdgesTest {
         fault(name.substring(0, name.length() - 1) + rest, 0);
         fault(name.substring(0, 1).toUpperCase() + name.substring(1) + rest, 0);
         fault(name.substring(0, name.length() - 1) + "~" + rest, 0);
+        for (int i = 0; i < name.length(); i++) {
+            fault(name.substring(0, i) + "x" + name.substring(i + 1) + rest, 0);
+        }
         fault(name + "{" + rest, name.length());
         fault(name + "`" + rest, name.length());
     }

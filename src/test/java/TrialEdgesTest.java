@@ -210,6 +210,14 @@ public final class TrialEdgesTest {
         OneStair behind = of("clerk 0 from 5 to 5;" + "clerk 0 from 4 to 4 at 1;".repeat(7));
         behind.minutes(1);
         due("swap(), who has ARRIVED is left out", behind.swap(), 12);
+        OneStair late = at(50, "clerk 0 from 7 to 7;" + "clerk 0 from 0 to 2 at 60;".repeat(3));
+        late.minutes(1);
+        late.clock(0);
+        for (int p = 1; p <= 3; p++) {
+            late.sends(p, 2 + p, 0);
+        }
+        due("last(), by one who has ARRIVED", late.last(), 50);
+        due("swap(), LAST is the same by all", late.swap(), 12);
     }
 
     private static void p24() {
